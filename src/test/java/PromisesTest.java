@@ -204,6 +204,8 @@ public final class PromisesTest {
         due("6: -1", desk.closure(-1), 255);
         due("6: one of many parallel", parallel().closure(32), 255);
         due("6: no zero vector", parallel().closure(0), 0);
+        due("6: element 7 and its parallel", sixCycle().closure(128), 128 + 2);
+        due("6: the set itself is in it", sixCycle().closure(128 + 16), 128 + 16 + 2);
         due("6: four of a cycle of six", sixCycle().closure(60), 60);
         due("6: five of a cycle of six", sixCycle().closure(62), 255);
     }
